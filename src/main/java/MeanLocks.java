@@ -1,7 +1,7 @@
 /**
  * Locks on ranges of a file with 300 places and 8 owners, and a row of requests that wait for them.
- * The document's promises are kept by Locks; this class checks what is asked and keeps the
- * history, the slots and the pad.
+ * Locks knows the rules by which they change; this class answers the questions about them, and holds
+ * what undo(), restore() and carryOut() need besides.
  */
 public final class MeanLocks {
     public static final int NO_SUCH = -1, BAD_VALUE = -2, BAD_TEXT = -3, TOO_MANY = -4, NOT_POSSIBLE = -5, NONE = -6;

@@ -1072,6 +1072,42 @@ public final class PromisesTest {
     due(1, y.ofOwner(0, 10));
   }
 
+  private static int changed(MeanLocks x, int which) {
+    switch (which) {
+      case 0: return x.set(PATIENCE, 9);
+      case 1: return x.request(0, READ, 0, 10, 0);
+      case 2: return x.free(0, 0, 10);
+      case 3: return x.cancel(1);
+      case 4: return x.leave(0);
+      case 5: return x.ticks(2);
+      case 6: return x.restore(1);
+      default: return x.carryOut();
+    }
+  }
+
+  private static void eachChangeRecordsTheStateBeforeIt() {
+    promise(26);
+    int[] answers = {0, 1, 10, 3, 10, 0, 0, 2};
+    for (int which = 0; which < answers.length; which++) {
+      MeanLocks x = new MeanLocks();
+      x.save(1);
+      x.request(0, WRITE, 0, 10, 0);
+      x.request(1, READ, 0, 10, 1);
+      x.ticks(3);
+      type(x, "x0;t4");
+      due(answers[which], changed(x, which));
+      due(4, x.count(10));
+      due(3, x.undo());
+      due(0, x.count(5));
+      due(3, x.count(0));
+      due(10, x.ofOwner(0, 2));
+      due(0, x.ofOwner(1, 0));
+      due(3, x.ofOwner(1, 8));
+      due(1, x.inRow(0));
+      due(1, x.count(6));
+    }
+  }
+
   private static void ownersThatThereAreNot() {
     MeanLocks x = new MeanLocks();
     x.request(0, READ, 0, 300, 0);
@@ -1214,6 +1250,7 @@ public final class PromisesTest {
     carryOut();
     undo();
     eachChangeIsUndone();
+    eachChangeRecordsTheStateBeforeIt();
     ownersThatThereAreNot();
     save();
     restore();
