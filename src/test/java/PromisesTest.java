@@ -1,66 +1,15 @@
 /** Each promise of the document with ordinary arguments, at its edges, and with wrong ones. */
-public final class PromisesTest {
-  private static final int NO_SUCH = -1, BAD_VALUE = -2, BAD_TEXT = -3, TOO_MANY = -4, NOT_POSSIBLE = -5, NONE = -6;
-  private static final int FAIR = 0, BREAK = 1, PATIENCE = 2;
-  private static final int FREE = 0, READ = 1, MEAN = 2, WRITE = 3;
-  private static final int LEAST = Integer.MIN_VALUE, GREATEST = Integer.MAX_VALUE;
-
-  private static int wrong = 0;
-  private static int promise = 0;
-  private static int step = 0;
-
-  private static void promise(int number) {
-    promise = number;
-    step = 0;
-  }
-
-  private static void due(int want, int got) {
-    step++;
-    if (got == want) return;
-    wrong++;
-    StackTraceElement from = new Throwable().getStackTrace()[1];
-    System.out.println("promise " + promise + ", step " + step + ", line " + from.getLineNumber() + ": answered " + got + ", due is " + want);
-  }
-
-  private static long pack(String characters) {
-    long number = 0;
-    for (int i = 0; i < characters.length(); i++) number = number << 8 | characters.charAt(i);
-    return number;
-  }
-
-  private static void type(MeanLocks x, String text) {
-    for (int i = 0; i < text.length(); i += 8) x.put(pack(text.substring(i, Math.min(i + 8, text.length()))));
-  }
-
-  private static int carry(MeanLocks x, String text) {
-    type(x, text);
-    return x.carryOut();
-  }
-
-  private static int faultOf(String text) {
-    MeanLocks x = new MeanLocks();
-    type(x, text);
-    return x.fault();
-  }
-
-  /** Owner 0 has WRITE in 0-2, owner 1 in 10-13; owner 0 waits for WRITE in 10-13. */
-  private static MeanLocks halfACircle() {
-    MeanLocks x = new MeanLocks();
-    x.request(0, WRITE, 0, 2, 0);
-    x.request(1, WRITE, 10, 13, 0);
-    x.request(0, WRITE, 10, 13, 1);
-    return x;
-  }
-
+public final class PromisesTest extends Check {
   private static void newObject() {
     promise(1);
-    MeanLocks x = new MeanLocks();
-    for (int what = 0; what <= 10; what++) due(what == 3 ? 1 : 0, x.count(what));
     for (int owner = 0; owner < 8; owner++) {
+      MeanLocks x = new MeanLocks();
       for (int what = 0; what <= 12; what++) due(what >= 4 && what <= 8 ? NONE : 0, x.ofOwner(owner, what));
       for (int place = 0; place < 300; place++) due(FREE, x.at(owner, place));
       due(0, x.waitsFor(owner));
     }
+    MeanLocks x = new MeanLocks();
+    for (int what = 0; what <= 10; what++) due(what == 3 ? 1 : 0, x.count(what));
     due(255, x.owners(0, FREE));
     due(NO_SUCH, x.inRow(0));
     due(0, x.fault());
@@ -1254,7 +1203,6 @@ public final class PromisesTest {
     ownersThatThereAreNot();
     save();
     restore();
-    System.out.println(wrong == 0 ? "all promises are kept" : wrong + " answers are not as due");
-    if (wrong != 0) System.exit(1);
+    end("all promises are kept");
   }
 }
